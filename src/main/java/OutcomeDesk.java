@@ -38,7 +38,7 @@ public final class OutcomeDesk {
     private static final int WALKING = 0;
     private static final int CLOSING = 1;
 
-    private int level;
+    private int chosenLevel;
     private int conditionTotal;
     private int programTotal;
 
@@ -52,7 +52,7 @@ public final class OutcomeDesk {
     private final long[] reached = new long[64];
 
     public OutcomeDesk() {
-        level = CLOSING;
+        chosenLevel = CLOSING;
         conditionTotal = 0;
         programTotal = 0;
     }
@@ -181,7 +181,7 @@ public final class OutcomeDesk {
         if (k != WALKING && k != CLOSING) {
             return false;
         }
-        level = k;
+        chosenLevel = k;
         return true;
     }
 
@@ -468,7 +468,7 @@ public final class OutcomeDesk {
 
     private void workOutWhile(int made, long test, int body) {
         long endless;
-        if (level == WALKING) {
+        if (chosenLevel == WALKING) {
             endless = walkRounds(test, body);
         } else {
             endless = closeRounds(test, body);
