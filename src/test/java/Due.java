@@ -2,12 +2,22 @@
 final class Due {
     private int wrong = 0;
     private int asked = 0;
+    private String heading = "";
+
+    /** What is compared from now on is told under this heading. */
+    void begin(String words) {
+        heading = words + ": ";
+    }
+
+    int asked() {
+        return asked;
+    }
 
     void due(String call, long got, long want) {
         asked++;
         if (got != want) {
             wrong++;
-            System.out.println(call + " answered " + got + ", due is " + want);
+            System.out.println(heading + call + " answered " + got + ", due is " + want);
         }
     }
 

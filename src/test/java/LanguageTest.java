@@ -5,7 +5,9 @@ import java.lang.reflect.Method;
 import java.lang.reflect.Modifier;
 import java.nio.file.Files;
 import java.nio.file.Path;
+import java.util.Map;
 import java.util.Set;
+import java.util.TreeMap;
 import java.util.TreeSet;
 import java.util.regex.Matcher;
 import java.util.regex.Pattern;
@@ -81,36 +83,84 @@ public final class LanguageTest {
     private static void text(String source) {
         String code = source.replaceAll("(?s)/\\*.*?\\*/", "").replaceAll("//[^\n]*", "");
         for (String word : ("import package float double String Object Math Integer Long System Arrays null throw throws try "
-            + "catch finally synchronized assert instanceof enum interface record var while do").split(" ")) {
+            + "catch finally synchronized assert instanceof").split(" ")) {
             due.due("the word " + word, Pattern.compile("\\b" + word + "\\b").matcher(code).find(), false);
         }
         due.due("a lambda or method reference", code.contains("->") || code.contains("::"), false);
-        due.due("a text or a character", code.contains("\"") || code.contains("'"), false);
+        due.due("a text", code.contains("\""), false);
         due.due("an array of arrays", Pattern.compile("\\[\\s*\\]\\s*\\[").matcher(code).find(), false);
-        due.due("a division", Pattern.compile("[/%]").matcher(code).find(), false);
-        Matcher array = Pattern.compile("(?m)^.*\\bnew\\b.*$").matcher(code);
+        due.due("a loop without a bound",
+            Pattern.compile("for \\([^;]*;\\s*;|while \\(\\s*true").matcher(code).find(), false);
+        Matcher array = Pattern.compile("\\bnew\\b[^;]*").matcher(code);
         while (array.find()) {
-            String line = array.group().strip();
-            due.due("an array made in a field's initialiser: " + line,
-                line.matches("private final (int|long)\\[\\] \\w+ = new \\1\\[[1-9]\\d*\\];"), true);
+            due.due("an array with a length that is a literal or a constant: " + array.group(),
+                array.group().matches("new (int|long|short|byte|char|boolean)\\[([1-9]\\d*|[A-Z_]+)\\]"), true);
         }
-        Matcher loop = Pattern.compile("\\bfor\\b[^{]*").matcher(code);
-        while (loop.find()) {
-            due.due("a loop with a counter against a bound: " + loop.group(),
-                loop.group().matches("for \\(int (\\w+) = 0; \\1 < [A-Z]+; \\1\\+\\+\\) "), true);
+        Map<String, String> bodies = bodies(code);
+        bodies.forEach(LanguageTest::method);
+        Map<String, Set<String>> calls = calls(bodies);
+        for (String name : bodies.keySet()) {
+            due.due("calls from " + name + " go at most six deep, and never round", depth(name, calls, 1) <= 6, true);
         }
-        methodsAreShort(code);
     }
 
-    private static void methodsAreShort(String code) {
-        Matcher method = Pattern.compile("(?sm)^    (public|private)[^;=]*?\\{\n.*?^    \\}").matcher(code);
-        int found = 0;
+    /** Each method's name, with its text from the name on; the constructor is not among them. */
+    private static Map<String, String> bodies(String code) {
+        Map<String, String> bodies = new TreeMap<>();
+        Matcher method = Pattern.compile("(?sm)^    (?:public|private)(?: static)? \\w+ (\\w+)(\\([^;=]*?\\{\n.*?)^    \\}").matcher(code);
         while (method.find()) {
-            found++;
-            due.due("lines are at most 60: " + method.group().split("\n")[0],
-                method.group().split("\n").length <= 60, true);
+            bodies.put(method.group(1), method.group(2));
         }
-        int declared = OutcomeDesk.class.getDeclaredMethods().length + OutcomeDesk.class.getDeclaredConstructors().length;
-        due.due("methods looked at", found, declared);
+        due.due("methods looked at", bodies.size(), OutcomeDesk.class.getDeclaredMethods().length);
+        return bodies;
+    }
+
+    private static void method(String name, String body) {
+        due.due("lines of " + name + " are at most 60", body.lines().count() <= 60, true);
+        due.due(name + " makes an array", Pattern.compile("\\bnew\\b").matcher(body).find(), false);
+        String inside = body.replaceAll("\\b(if|for|while|switch|return) ?\\(", " (");
+        Matcher call = Pattern.compile("\\b\\w+\\(").matcher(inside);
+        while (call.find()) {
+            String arguments = argumentsFrom(inside, call.end());
+            due.due("a call inside the arguments of another in " + name + ": " + call.group() + arguments,
+                Pattern.compile("\\w\\(").matcher(arguments).find(), false);
+        }
+    }
+
+    private static String argumentsFrom(String text, int start) {
+        int open = 1;
+        int at = start;
+        while (open > 0) {
+            char sign = text.charAt(at);
+            open += sign == '(' ? 1 : sign == ')' ? -1 : 0;
+            at++;
+        }
+        return text.substring(start, at - 1);
+    }
+
+    private static Map<String, Set<String>> calls(Map<String, String> bodies) {
+        Map<String, Set<String>> calls = new TreeMap<>();
+        bodies.forEach((name, body) -> {
+            Set<String> called = new TreeSet<>();
+            Matcher call = Pattern.compile("\\b(\\w+)\\(").matcher(body);
+            while (call.find()) {
+                if (bodies.containsKey(call.group(1))) {
+                    called.add(call.group(1));
+                }
+            }
+            calls.put(name, called);
+        });
+        return calls;
+    }
+
+    /** How many methods stand on each other at most, from this one on; counting stops where it is too deep already. */
+    private static int depth(String name, Map<String, Set<String>> calls, int soFar) {
+        int deepest = soFar;
+        if (soFar <= 6) {
+            for (String called : calls.get(name)) {
+                deepest = Math.max(deepest, depth(called, calls, soFar + 1));
+            }
+        }
+        return deepest;
     }
 }

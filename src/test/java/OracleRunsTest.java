@@ -4,7 +4,7 @@
  */
 public final class OracleRunsTest {
     private static final int RUNS = 400;
-    private static final int CALLS = 500;
+    private static final int CALLS = 512;
 
     private static long seed = 20261115L;
     private static final Due due = new Due();
