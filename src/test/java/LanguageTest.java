@@ -20,10 +20,13 @@ public final class LanguageTest {
         "int ends(int, int)", "int end(int, int, int)", "int after(int, int)", "boolean refines(int, int)",
         "boolean same(int, int)", "boolean level(int)");
 
+    private static final Path DOCUMENT = Path.of("../shared/DOC.md");
+
     private static final Due due = new Due();
 
     public static void main(String[] args) throws IOException {
         methods();
+        faceOfTheDocument();
         fields();
         classItself();
         text(Files.readString(Path.of("src/main/java/OutcomeDesk.java")));
@@ -49,6 +52,24 @@ public final class LanguageTest {
                 due.due(m + " has a name of its own", names.contains(m.getName()), false);
             }
         }
+    }
+
+    /** That FACE and the constants are those that the document has, in case it changes. */
+    private static void faceOfTheDocument() throws IOException {
+        if (!Files.isRegularFile(DOCUMENT)) {
+            System.out.println("there is no " + DOCUMENT + ": the public face is not compared with it");
+            return;
+        }
+        String face = new Document(DOCUMENT).section("The public face");
+        Set<String> found = new TreeSet<>();
+        Matcher method = Pattern.compile("public (\\w+ \\w+\\()([^)]*\\));").matcher(face);
+        while (method.find()) {
+            found.add(method.group(1) + method.group(2).replaceAll(" \\w+([,)])", "$1"));
+        }
+        due.due("methods of the document " + found, found.equals(FACE), true);
+        due.due("BAD", face.contains("int BAD = " + OutcomeDesk.BAD + ";"), true);
+        due.due("FULL", face.contains("int FULL = " + OutcomeDesk.FULL + ";"), true);
+        due.due("NONE", face.contains("int NONE = " + OutcomeDesk.NONE + ";"), true);
     }
 
     private static void fields() {

@@ -70,11 +70,11 @@ final class MakingCases {
         other.drop(6);
     }
 
-    /** That the level is 1 shows in no answer: what can be seen is that a new object answers as one set to it does. */
     @Sentence(in = NEW_OBJECT, words = "the level is 1.")
     static void newIsAtLevel1(Due due) {
         for (int turn = 0; turn < 2; turn++) {
             Watched d = new Watched(due);
+            d.heldLevel(1);
             if (turn == 1) {
                 d.level(1, true);
             }
@@ -495,6 +495,19 @@ final class MakingCases {
         }
     }
 
+    /** The level is neither a condition nor a program, and so is not taken away. */
+    @Sentence(in = DROP, words = "Takes all conditions and programs away")
+    static void dropLeavesTheLevel(Due due) {
+        for (int level = 0; level < 2; level++) {
+            Watched d = Watched.withPrograms(due);
+            d.level(level, true);
+            d.drop(6);
+            d.heldLevel(level);
+            d.drop(0);
+            d.heldLevel(level);
+        }
+    }
+
     /** Where programs stood that fail and go on for ever, new ones of every kind do only what is theirs. */
     @Sentence(in = DROP, words = "all conditions and programs")
     static void dropLeavesNothing(Due due) {
@@ -543,10 +556,12 @@ final class MakingCases {
         Watched d = new Watched(due);
         for (int k : Watched.outside(0, 1)) {
             d.level(k, false);
+            d.heldLevel(1);
         }
         d.level(0, true);
         for (int k : Watched.outside(0, 1)) {
             d.level(k, false);
+            d.heldLevel(0);
         }
         d.condition(1, 0, 0, 0);
         d.program(3, 0, 0, 0, 0);
@@ -560,6 +575,7 @@ final class MakingCases {
         Watched d = new Watched(due);
         for (int k : new int[] {1, 1, 0, 0, 1, 0}) {
             d.level(k, true);
+            d.heldLevel(k);
         }
         d.condition(0, 0, 0, 0);
         d.program(0, 0, 0, 0, 0);

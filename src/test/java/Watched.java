@@ -1,3 +1,4 @@
+import java.lang.reflect.Field;
 import java.util.Arrays;
 import java.util.StringJoiner;
 
@@ -115,6 +116,17 @@ final class Watched {
 
     void level(int k, boolean want) {
         compare("level", desk.level(k), want, k);
+    }
+
+    /** The level shows in no answer, so the only way to see it is to look at the field that holds it. */
+    void heldLevel(int want) {
+        try {
+            Field held = OutcomeDesk.class.getDeclaredField("chosenLevel");
+            held.setAccessible(true);
+            due.due("after call " + calls + ", the level", held.getInt(desk), want);
+        } catch (ReflectiveOperationException e) {
+            due.due("OutcomeDesk has the field chosenLevel, of type int", false, true);
+        }
     }
 
     int calls() {
